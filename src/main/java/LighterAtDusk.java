@@ -7,7 +7,6 @@ public final class LighterAtDusk {
 
     private static final int FAILS = -2;
     private static final int BELLS = 9;
-    private static final int ALL_BELLS = 511;
     private static final int MOST_FOLK = 9;
     private static final int SETS = 512;
     private static final int HEAVIEST = 9999;
@@ -175,20 +174,22 @@ public final class LighterAtDusk {
 
     public int board(int who, int place) {
         deck.mark();
-        int load = comeAboard(who, place);
-        if (load >= 0) {
-            deck.remember();
+        int refusal = comeAboard(who, place);
+        if (refusal != 0) {
+            return refusal;
         }
-        return load;
+        deck.remember();
+        return load();
     }
 
     public int off(int who) {
         deck.mark();
-        int load = goOff(who);
-        if (load >= 0) {
-            deck.remember();
+        int refusal = goOff(who);
+        if (refusal != 0) {
+            return refusal;
         }
-        return load;
+        deck.remember();
+        return load();
     }
 
     public int step(int who, int by) {
@@ -495,11 +496,11 @@ public final class LighterAtDusk {
             stance = new Stance(crowd, deck);
         }
         int answer = stance.widen(n, bears[RAFT]);
-        if (answer == 1 && stance.narrow(n)) {
+        if (answer == 1) {
+            stance.narrow(n);
             stance.tellSteps(n, told);
-            return 1;
         }
-        return answer < 0 ? answer : 0;
+        return answer;
     }
 
     public int trim(int who) {
@@ -858,6 +859,7 @@ public final class LighterAtDusk {
         return bells;
     }
 
+    /** 0: done; else what the call answers that is not. */
     private int comeAboard(int who, int place) {
         if (!crowd.has(who) || deck.isAboard(who) || !within(place, -FARTHEST, FARTHEST)) {
             return NONE;
@@ -867,7 +869,7 @@ public final class LighterAtDusk {
         }
         deck.aboard |= 1 << who;
         deck.places[who] = place;
-        return load();
+        return 0;
     }
 
     private int goOff(int who) {
@@ -878,7 +880,7 @@ public final class LighterAtDusk {
             return FAILS;
         }
         deck.aboard &= ~(1 << who);
-        return load();
+        return 0;
     }
 
     private int tread(int who, int by) {
@@ -902,9 +904,9 @@ public final class LighterAtDusk {
                 deck.now += by;
                 return true;
             case 'b':
-                return comeAboard(who, by) >= 0;
+                return comeAboard(who, by) == 0;
             case 'o':
-                return goOff(who) >= 0;
+                return goOff(who) == 0;
             default:
                 return tread(who, by) >= -FARTHEST;
         }
@@ -1040,7 +1042,6 @@ public final class LighterAtDusk {
             return (persons >> line & 1) != 0;
         }
 
-        @Override
         void begin() {
             lines = 0;
             persons = 0;
@@ -1048,7 +1049,6 @@ public final class LighterAtDusk {
             inLine = false;
         }
 
-        @Override
         boolean takes(int sign) {
             if (!inLine) {
                 return takesKind(sign);
@@ -1079,23 +1079,22 @@ public final class LighterAtDusk {
             return true;
         }
 
-        @Override
         boolean canEnd() {
             return inLine && digits > 0 && bases[lines - 1] > 0;
         }
 
         /** A BASE of 0 is known for one only when it ends, but its last digit is what is wrong. */
-        @Override
         int faultAt(int p) {
             return inLine && digits > 0 && bases[lines - 1] == 0 ? p - 1 : p;
         }
     }
 
-    /** THE RULE, held with what it takes last first; reading makes a draft that is adopted if it is whole. */
+    /** THE RULE, each operator behind what it joins; reading makes a draft, which is adopted if it is whole. */
     private static final class Habit extends Reader {
         private static final int ROOM = 48;
         private static final int DEEPEST = 4;
         private static final int NEGATE = '~';
+        private static final int NUMBER = 0;
 
         /** A number, or (below 0) the sign of what is done. */
         private final int[] codes = new int[ROOM];
@@ -1116,12 +1115,11 @@ public final class LighterAtDusk {
 
         void adopt() {
             while (waitingCount > 0) {
-                putWaiting();
+                waitingCount--;
+                put(-waiting[waitingCount]);
             }
             length = drafted;
-            for (int k = 0; k < length; k++) {
-                codes[k] = draft[k];
-            }
+            System.arraycopy(draft, 0, codes, 0, ROOM);
         }
 
         int weigh(int base, int bell, int day, int who) {
@@ -1132,40 +1130,51 @@ public final class LighterAtDusk {
         private int value(int base, int bell, int day, int who) {
             int top = 0;
             for (int k = 0; k < length; k++) {
+                int one = top > 1 ? stack[top - 2] : 0;
+                int other = top > 0 ? stack[top - 1] : 0;
                 int code = codes[k];
-                if (code >= 0) {
-                    stack[top] = code;
-                    top++;
-                } else if (isLetter(-code)) {
-                    stack[top] = letter(-code, base, bell, day, who);
-                    top++;
-                } else if (-code == NEGATE) {
-                    if (top > 0) {
-                        stack[top - 1] = -stack[top - 1];
-                    }
-                } else if (top > 1) {
-                    top--;
-                    stack[top - 1] = join(-code, stack[top - 1], stack[top]);
+                int found;
+                switch (code < 0 ? -code : NUMBER) {
+                    case NUMBER:
+                        found = code;
+                        break;
+                    case 'w':
+                        found = base;
+                        break;
+                    case 'b':
+                        found = bell;
+                        break;
+                    case 'd':
+                        found = day;
+                        break;
+                    case 'i':
+                        found = who;
+                        break;
+                    case NEGATE:
+                        found = -other;
+                        break;
+                    default:
+                        found = join(-code, one, other);
+                        break;
+                }
+                top += grows(code);
+                if (top > 0 && top <= ROOM) {
+                    stack[top - 1] = found;
                 }
             }
             return stack[0];
         }
 
-        private static boolean isLetter(int sign) {
-            return sign == 'w' || sign == 'b' || sign == 'd' || sign == 'i';
+        /** By how many numbers more there are behind a code. */
+        private static int grows(int code) {
+            if (code >= 0 || isLetter(-code)) {
+                return 1;
+            }
+            return code == -NEGATE ? 0 : -1;
         }
 
-        private static int letter(int sign, int base, int bell, int day, int who) {
-            switch (sign) {
-                case 'w':
-                    return base;
-                case 'b':
-                    return bell;
-                case 'd':
-                    return day;
-                default:
-                    return who;
-            }
+        private static boolean isLetter(int sign) {
+            return sign == 'w' || sign == 'b' || sign == 'd' || sign == 'i';
         }
 
         private static int join(int sign, int one, int other) {
@@ -1207,7 +1216,6 @@ public final class LighterAtDusk {
             }
         }
 
-        @Override
         void begin() {
             drafted = 0;
             waitingCount = 0;
@@ -1217,12 +1225,10 @@ public final class LighterAtDusk {
             behindThing = false;
         }
 
-        @Override
         boolean canEnd() {
             return behindThing && depth == 0;
         }
 
-        @Override
         boolean takes(int sign) {
             if (drafted >= ROOM || waitingCount >= ROOM) {
                 return false;
@@ -1254,13 +1260,13 @@ public final class LighterAtDusk {
                 return true;
             }
             if (sign == '-') {
-                await(NEGATE);
+                putOff(NEGATE);
                 return true;
             }
             if (sign == '(' && depth < DEEPEST) {
                 depth++;
                 compared[depth] = false;
-                await(sign);
+                putOff(sign);
                 return true;
             }
             return false;
@@ -1276,9 +1282,10 @@ public final class LighterAtDusk {
             }
             compared[depth] |= bond == 1;
             while (waitingCount > 0 && bond(waiting[waitingCount - 1]) >= bond) {
-                putWaiting();
+                waitingCount--;
+                put(-waiting[waitingCount]);
             }
-            await(sign);
+            putOff(sign);
             behindThing = false;
             return true;
         }
@@ -1288,7 +1295,8 @@ public final class LighterAtDusk {
                 return false;
             }
             while (waitingCount > 0 && waiting[waitingCount - 1] != '(') {
-                putWaiting();
+                waitingCount--;
+                put(-waiting[waitingCount]);
             }
             if (waitingCount > 0) {
                 waitingCount--;
@@ -1304,16 +1312,11 @@ public final class LighterAtDusk {
             }
         }
 
-        private void await(int sign) {
+        private void putOff(int sign) {
             if (waitingCount < ROOM) {
                 waiting[waitingCount] = sign;
                 waitingCount++;
             }
-        }
-
-        private void putWaiting() {
-            waitingCount--;
-            put(-waiting[waitingCount]);
         }
     }
 
@@ -1335,18 +1338,15 @@ public final class LighterAtDusk {
         private int digits;
         private boolean negative;
 
-        @Override
         void begin() {
             actCount = 0;
             state = AT_ACT;
         }
 
-        @Override
         boolean canEnd() {
             return state == AT_END || (state == AT_NUMBER && digits > 0);
         }
 
-        @Override
         boolean takes(int sign) {
             if (state == AT_ACT) {
                 return takesKind(sign);
@@ -1468,7 +1468,7 @@ public final class LighterAtDusk {
         }
 
         int weightAt(int who, int moment) {
-            return weightWith(who, bases[who], moment);
+            return isPerson(who) ? habit.weigh(bases[who], moment % BELLS, moment / BELLS, who) : bases[who];
         }
 
         int weightWith(int who, int base, int moment) {
@@ -1788,7 +1788,6 @@ public final class LighterAtDusk {
             for (int crossing = 0; crossing < most; crossing++) {
                 crowd.sumAll(first + crossing);
                 if (crossing % 2 == 0 && canEnd(crossing)) {
-                    Arrays.fill(reached, (crossing + 1) * WORDS, (crossing + 2) * WORDS, 0L);
                     reach(crossing + 1, those);
                     return crossing + 1;
                 }
@@ -1824,8 +1823,11 @@ public final class LighterAtDusk {
         /** The least load that leads to what is still reached behind the crossing; 0: none. */
         private int leastLoad(int crossing, int over) {
             int bank = bankOf(crossing, over);
-            for (int load = 1; load <= bank; load++) {
-                if ((load & ~bank) == 0 && carries(load) && isReached(crossing + 1, over ^ load)) {
+            int load = 0;
+            for (int turn = 0; turn < SETS; turn++) {
+                // the next greater set of those on the bank; 0 behind all of them
+                load = load - bank & bank;
+                if (load == 0 || (carries(load) && isReached(crossing + 1, over ^ load))) {
                     return load;
                 }
             }
@@ -1926,11 +1928,12 @@ public final class LighterAtDusk {
         }
     }
 
-    /** The ways of PLACES of those ABOARD, BELL by BELL; a way is a number with a digit of nine for each. */
+    /** The ways of PLACES of those ABOARD, BELL by BELL; a way is a number with a digit of nine for each of them. */
     private static final class Stance {
         static final int MOST_BELLS = 20;
         private static final int WAYS = 500;
         private static final int SLOTS = 1024;
+        private static final int NINE = 2 * FARTHEST + 1;
         private static final int NOBODY = 18;
         /** Above every move, so that one number tells how many steps are left and the move that is next. */
         private static final int STEP = 32;
@@ -1938,12 +1941,14 @@ public final class LighterAtDusk {
 
         private final Crowd crowd;
         private final Deck deck;
+        private final int[] standing = new int[MOST_FOLK];
+        private int standingCount;
+        private final int[] weights = new int[MOST_FOLK];
         private final int[] ways = new int[(MOST_BELLS + 1) * WAYS];
         private final int[] wayCounts = new int[MOST_BELLS + 1];
         private final int[] best = new int[(MOST_BELLS + 1) * WAYS];
         /** Where each way of one BELL stands, by a number made of it: 1 more than its index; 0: free. */
         private final int[] slots = new int[SLOTS];
-        private final int[] weights = new int[MOST_FOLK];
         private int raft;
 
         Stance(Crowd crowd, Deck deck) {
@@ -1951,50 +1956,47 @@ public final class LighterAtDusk {
             this.deck = deck;
         }
 
-        private int startWay() {
-            int way = 0;
+        private void begin(int bears) {
+            raft = bears;
+            standingCount = 0;
+            ways[0] = 0;
+            wayCounts[0] = 1;
             for (int who = 0; who < crowd.size; who++) {
-                way += deck.isAboard(who) ? (deck.places[who] + FARTHEST) * UNITS[who] : 0;
+                if (deck.isAboard(who)) {
+                    ways[0] += (deck.places[who] + FARTHEST) * UNITS[standingCount];
+                    standing[standingCount] = who;
+                    standingCount++;
+                }
             }
-            return way;
         }
 
         private void weighAt(int bell) {
-            for (int who = 0; who < crowd.size; who++) {
-                weights[who] = crowd.weightAt(who, deck.now + bell);
+            for (int k = 0; k < standingCount; k++) {
+                weights[k] = crowd.weightAt(standing[k], deck.now + bell);
             }
-        }
-
-        private static int digit(int way, int who) {
-            return way / UNITS[who] % (2 * FARTHEST + 1);
         }
 
         private int leanOf(int way) {
             int lean = 0;
-            for (int who = 0; who < crowd.size; who++) {
-                if (deck.isAboard(who)) {
-                    lean += weights[who] * (digit(way, who) - FARTHEST);
-                }
+            int rest = way;
+            for (int k = 0; k < standingCount; k++) {
+                lean += weights[k] * (rest % NINE - FARTHEST);
+                rest /= NINE;
             }
             return lean;
         }
 
-        private boolean holds(int lean) {
-            return Math.abs(lean) <= raft;
+        private boolean bearsLean(int lean) {
+            return lean <= raft && -lean <= raft;
         }
 
-        /** The way behind a move; NONE: it can't be made. */
-        private int moved(int way, int lean, int move) {
-            int who = move / 2;
-            if (!crowd.has(who) || !deck.isAboard(who)) {
+        /** The way behind a step; NONE: it can't be taken. */
+        private int stepped(int way, int lean, int k, int by) {
+            int place = way / UNITS[k] % NINE + by;
+            if (place < 0 || place >= NINE || !bearsLean(lean + by * weights[k])) {
                 return NONE;
             }
-            int by = move % 2 == 0 ? -1 : 1;
-            int digit = digit(way, who) + by;
-            if (!within(digit, 0, 2 * FARTHEST) || !holds(lean + by * weights[who])) {
-                return NONE;
-            }
-            return way + by * UNITS[who];
+            return way + by * UNITS[k];
         }
 
         private int slotOf(int bell, int way) {
@@ -2011,6 +2013,9 @@ public final class LighterAtDusk {
 
         /** False: there would be more ways than are looked at. */
         private boolean addWay(int bell, int way) {
+            if (way == NONE) {
+                return true;
+            }
             int slot = slotOf(bell, way);
             if (slots[slot] != 0) {
                 return true;
@@ -2024,11 +2029,9 @@ public final class LighterAtDusk {
             return true;
         }
 
-        /** 1, -3 if there are too many ways behind some BELL, 0 if there is none. */
+        /** 1, 0 if there is no way behind some BELL, -3 if there are too many. */
         int widen(int bells, int bears) {
-            raft = bears;
-            ways[0] = startWay();
-            wayCounts[0] = 1;
+            begin(bears);
             for (int bell = 1; bell <= bells; bell++) {
                 weighAt(bell);
                 Arrays.fill(slots, 0);
@@ -2047,24 +2050,21 @@ public final class LighterAtDusk {
 
         private boolean widenFrom(int bell, int way) {
             int lean = leanOf(way);
-            if (!holds(lean)) {
+            if (!bearsLean(lean)) {
                 return true;
             }
-            if (!addWay(bell, way)) {
-                return false;
+            boolean few = addWay(bell, way);
+            for (int k = 0; k < standingCount && few; k++) {
+                few = addWay(bell, stepped(way, lean, k, -1)) && addWay(bell, stepped(way, lean, k, 1));
             }
-            for (int move = 0; move < NOBODY; move++) {
-                int next = moved(way, lean, move);
-                if (next != NONE && !addWay(bell, next)) {
-                    return false;
-                }
-            }
-            return true;
+            return few;
         }
 
-        /** From the last BELL back, the fewest steps and the first move of each way; whether the start has one. */
-        boolean narrow(int bells) {
-            Arrays.fill(best, bells * WAYS, (bells + 1) * WAYS, 0);
+        /** From the last BELL back, the fewest steps and the next move of each way. */
+        void narrow(int bells) {
+            for (int k = 0; k < wayCounts[bells]; k++) {
+                best[bells * WAYS + k] = 0;
+            }
             for (int bell = bells; bell > 0; bell--) {
                 weighAt(bell);
                 Arrays.fill(slots, 0);
@@ -2076,26 +2076,24 @@ public final class LighterAtDusk {
                     best[at] = bestFrom(bell, ways[at]);
                 }
             }
-            return best[0] < MANY;
         }
 
         private int bestFrom(int bell, int way) {
             int lean = leanOf(way);
-            if (!holds(lean)) {
+            if (!bearsLean(lean)) {
                 return MANY;
             }
             int lowest = bestBy(bell, way, 0, NOBODY);
-            for (int move = 0; move < NOBODY; move++) {
-                int next = moved(way, lean, move);
-                if (next != NONE) {
-                    lowest = Math.min(lowest, bestBy(bell, next, 1, move));
-                }
+            for (int k = 0; k < standingCount; k++) {
+                int move = 2 * standing[k];
+                lowest = Math.min(lowest, bestBy(bell, stepped(way, lean, k, -1), 1, move));
+                lowest = Math.min(lowest, bestBy(bell, stepped(way, lean, k, 1), 1, move + 1));
             }
             return lowest;
         }
 
         private int bestBy(int bell, int next, int steps, int move) {
-            int index = slots[slotOf(bell, next)];
+            int index = next == NONE ? 0 : slots[slotOf(bell, next)];
             int then = index == 0 ? MANY : best[bell * WAYS + index - 1];
             return then == MANY ? MANY : (then / STEP + steps) * STEP + move;
         }
@@ -2109,15 +2107,22 @@ public final class LighterAtDusk {
             return bell * WAYS;
         }
 
+        private int behindMove(int way, int move) {
+            for (int k = 0; k < standingCount; k++) {
+                if (standing[k] == move / 2) {
+                    return move % 2 == 0 ? way - UNITS[k] : way + UNITS[k];
+                }
+            }
+            return way;
+        }
+
         void tellSteps(int bells, Row row) {
             row.tell(best[0] / STEP);
-            int way = startWay();
+            int way = ways[0];
             for (int bell = 0; bell < bells && bell < ROW_SHOWN; bell++) {
                 int move = best[indexOf(bell, way)] % STEP;
                 row.add(move);
-                if (move < NOBODY) {
-                    way += move % 2 == 0 ? -UNITS[move / 2] : UNITS[move / 2];
-                }
+                way = behindMove(way, move);
             }
         }
     }
