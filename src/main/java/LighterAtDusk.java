@@ -1123,17 +1123,14 @@ public final class LighterAtDusk {
         }
 
         int weigh(int base, int bell, int day, int who) {
-            int value = length == 0 ? base - base * bell / 24 : value(base, bell, day, who);
-            return Math.max(0, Math.min(HEAVIEST, value));
-        }
-
-        private int value(int base, int bell, int day, int who) {
+            if (length == 0) {
+                return base - base * bell / 24;
+            }
             int top = 0;
             for (int k = 0; k < length; k++) {
-                int one = top > 1 ? stack[top - 2] : 0;
-                int other = top > 0 ? stack[top - 1] : 0;
                 int code = codes[k];
-                int found;
+                int found = 0;
+                int more = 1;
                 switch (code < 0 ? -code : NUMBER) {
                     case NUMBER:
                         found = code;
@@ -1151,33 +1148,23 @@ public final class LighterAtDusk {
                         found = who;
                         break;
                     case NEGATE:
-                        found = -other;
+                        found = top > 0 ? -stack[top - 1] : 0;
+                        more = 0;
                         break;
                     default:
-                        found = join(-code, one, other);
+                        found = top > 1 ? joined(-code, stack[top - 2], stack[top - 1]) : 0;
+                        more = -1;
                         break;
                 }
-                top += grows(code);
+                top += more;
                 if (top > 0 && top <= ROOM) {
                     stack[top - 1] = found;
                 }
             }
-            return stack[0];
+            return Math.max(0, Math.min(HEAVIEST, stack[0]));
         }
 
-        /** By how many numbers more there are behind a code. */
-        private static int grows(int code) {
-            if (code >= 0 || isLetter(-code)) {
-                return 1;
-            }
-            return code == -NEGATE ? 0 : -1;
-        }
-
-        private static boolean isLetter(int sign) {
-            return sign == 'w' || sign == 'b' || sign == 'd' || sign == 'i';
-        }
-
-        private static int join(int sign, int one, int other) {
+        private static int joined(int sign, int one, int other) {
             switch (sign) {
                 case '+':
                     return one + other;
@@ -1194,6 +1181,10 @@ public final class LighterAtDusk {
                 default:
                     return one == other ? 1 : 0;
             }
+        }
+
+        private static boolean isLetter(int sign) {
+            return sign == 'w' || sign == 'b' || sign == 'd' || sign == 'i';
         }
 
         /** How firmly an operator binds; 0: none, or an open bracket. */
