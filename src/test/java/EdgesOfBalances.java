@@ -64,6 +64,11 @@ public final class EdgesOfBalances {
             Edge.due(call, x.even(ask[0], ask[1]), ask[2]);
             Edge.dueRow(x, call, ask[3]);
         }
+        LighterAtDusk near = Edge.with("t50;t51;p50", "w+(b=8)-(b=0)");
+        Edge.due("even(2, 1), 1 more", near.even(2, 1), 0);
+        Edge.dueRow(near, "even(2, 1), 1 more", 511);
+        Edge.due("even(4, 1), 1 less at dawn and 1 more at dusk", near.even(4, 1), 254);
+        Edge.dueRow(near, "even(4, 1)", 256);
         Edge.about(38, "of the DAY of NOW");
         LighterAtDusk y = Edge.with("p1;t8", "d*b");
         y.ring(8);
@@ -334,6 +339,13 @@ public final class EdgesOfBalances {
         gaps.unsay();
         gaps.weighed(1, 2, 0);
         fitsOf(gaps, 0, 1, 999, 666);
+        LighterAtDusk late = Edge.with("p500", "w+d*10+b");
+        late.ring(8);
+        late.weighed(1, 1, 110);
+        late.weighed(1, 0, 108);
+        fitsOf(late, 0, 100, 100, 1);
+        late.ring(1);
+        fitsOf(late, 0, -2, 0, 0);
         LighterAtDusk most = Edge.with("p500", "w*w");
         most.weighed(1, 0, 9999);
         fitsOf(most, 0, 100, 999, 900);
@@ -372,6 +384,12 @@ public final class EdgesOfBalances {
         x.unsay();
         x.weighed(2, 0, 1000);
         Edge.due("liars(), no BASE is so great", x.liars(), 0);
+        x.unsay();
+        x.weighed(1, 0, 999);
+        Edge.due("liars(), it has to be the greatest BASE", x.liars(), 1);
+        x.unsay();
+        x.weighed(2, 0, 1);
+        Edge.due("liars(), it has to be the least BASE", x.liars(), 2);
         x.unsay();
         x.weighed(1, 0, 0);
         Edge.due("liars(), no BASE is so small", x.liars(), 0);

@@ -76,6 +76,9 @@ public final class EdgesOfPrints {
         printOf(x, new int[] {0, 20, 0}, 2, 2, 0);
         printOf(x, new int[] {0, 15, 0}, 0, 1, 4);
         printOf(x, new int[] {0, 17, 0}, 0, 1, 8);
+        LighterAtDusk firstThing = Edge.with("t5;p10;t7");
+        printOf(firstThing, new int[] {0, 15, 0}, 0, 2, 1);
+        printOf(firstThing, new int[] {0, 17, 0}, 0, 2, 4);
         LighterAtDusk things = Edge.with("t5;t7");
         printOf(things, new int[] {0, 5, 999}, 0, 0, 0);
         LighterAtDusk nine = Edge.with("p8;t1;t2;t3;t4;t5;t6;t7;p9");
@@ -173,6 +176,12 @@ public final class EdgesOfPrints {
         y.ring(1);
         Edge.due("ballast(1, 20) at the next dawn", y.ballast(1, 20), 50);
         Edge.due("ballast(1, 15) at the next dawn", y.ballast(1, 15), 5);
+        LighterAtDusk rising = Edge.with("p1;t5", "b+5");
+        Edge.due("ballast(1, 5), the lightest at dawn", rising.ballast(1, 5), 0);
+        Edge.due("ballast(1, 6), the lightest at dawn", rising.ballast(1, 6), 5);
+        LighterAtDusk falling = Edge.with("p1;t5", "9-d*9-(b=8)");
+        Edge.due("ballast(1, 8), the lightest at dusk", falling.ballast(1, 8), 0);
+        Edge.due("ballast(1, 9), the lightest at dusk", falling.ballast(1, 9), 5);
         LighterAtDusk persons = Edge.with("p50;p60");
         Edge.due("ballast(1, 40), persons are no ballast", persons.ballast(1, 40), -2);
     }

@@ -58,6 +58,10 @@ public final class EdgesOfRiver {
         Edge.dueRow(x, "goes(1) at dusk", 1);
         x.ring(1);
         Edge.due("goes(1) at the next dawn", x.goes(1), 8);
+        LighterAtDusk nothing = Edge.with("p1", "b<3");
+        nothing.bear(0, 0);
+        Edge.due("goes(1) by a boat that bears 0", nothing.goes(1), 3);
+        Edge.dueRow(nothing, "goes(1) by a boat that bears 0", 6);
         Edge.about(32, "After how many BELLS (0 .. 99); -2: at none of these");
         LighterAtDusk y = Edge.with("p100", "w-d*9-b");
         y.bear(0, 1);

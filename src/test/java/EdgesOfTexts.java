@@ -13,6 +13,7 @@ public final class EdgesOfTexts {
         folkThatCannot();
         folkWithoutRoom();
         folkAndWhatIsKept();
+        textsBehindTexts();
         rulesOfOneThing();
         rulesThatBind();
         rulesAsInts();
@@ -286,6 +287,51 @@ public final class EdgesOfTexts {
         Edge.dueRow(x, "folk()", 8, 0);
         Edge.due("PLACE of one ABOARD", x.of(0, 3), 1);
         Edge.due("PLACE of the fifth", x.of(4, 3), 0);
+    }
+
+    private static void textsBehindTexts() {
+        Edge.about(4, "nothing of an earlier text is left when another is read");
+        LighterAtDusk x = new LighterAtDusk();
+        Edge.folk(x, "p1;p2");
+        Edge.due("folk() behind folk()", Edge.folk(x, "t3;p4"), 2);
+        Edge.folk(x, "p5;p6;p7;x");
+        Edge.due("folk() behind one that can't", Edge.folk(x, "t8;t9;p10"), 3);
+        int[] kinds = {1, 1, 0, 1, 0, 0, 1};
+        int[] bases = {1, 2, 3, 4, 8, 9, 10};
+        for (int who = 0; who < 7; who++) {
+            Edge.due("of(" + who + ", 0)", x.of(who, 0), kinds[who]);
+            Edge.due("of(" + who + ", 1)", x.of(who, 1), bases[who]);
+        }
+        Edge.folk(x, "t1;p12");
+        Edge.due("folk() that is full", Edge.folk(x, "t1"), -1);
+        Edge.about(5, "nothing of an earlier text is left when another is read");
+        LighterAtDusk y = Edge.with("p240");
+        String[] earlier = {"((((1", "w<b", "1<2<3", "((w<b", "w*--", "12", "w+(b-1", "x", "w+1000", "-w"};
+        for (String text : earlier) {
+            Edge.rule(y, text);
+            Edge.due("rule() behind " + text, Edge.rule(y, "23"), 0);
+            Edge.due("weight by 23 behind " + text, y.weight(0, 0), 23);
+            Edge.rule(y, text);
+            Edge.due("rule() behind " + text, Edge.rule(y, "w-7<300"), 0);
+            Edge.due("weight by w-7<300 behind " + text, y.weight(0, 0), 1);
+            Edge.rule(y, text);
+            Edge.due("rule() behind " + text, Edge.rule(y, "((((w-7))))*2"), 0);
+            Edge.due("weight by ((((w-7))))*2 behind " + text, y.weight(0, 0), 466);
+        }
+        Edge.about(15, "nothing of an earlier text is left when another is read");
+        LighterAtDusk z = Edge.with("t5");
+        String[] days = {"r1;r2;r3", "ba-", "ba-1;x", "sa", "r", "r1;"};
+        for (String text : days) {
+            Edge.day(z, text);
+            int now = z.count(1);
+            Edge.due("day() behind " + text, Edge.day(z, "ba2;r11;oa"), 3);
+            Edge.due("PLACE", z.of(0, 3), 2);
+            Edge.due("NOW", z.count(1), now + 11);
+            Edge.day(z, text);
+            now = z.count(1);
+            Edge.due("an empty day() behind " + text, Edge.day(z, ""), 0);
+            Edge.due("NOW", z.count(1), now);
+        }
     }
 
     private static void weighsBy(String rule, int weight) {

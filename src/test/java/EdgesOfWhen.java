@@ -139,6 +139,8 @@ public final class EdgesOfWhen {
         spreadBy("7", 0, 0, 0, 0);
         spreadBy("(b-4)*(b-4)", 0, 16, 4, 0);
         spreadBy("9-(b-4)*(b-4)", 0, 9, 0, 4);
+        spreadBy("b=1", 0, 1, 0, 1);
+        spreadBy("2-(b=1)", 0, 1, 1, 0);
         spreadBy("b=8", 0, 1, 0, 8);
         spreadBy("b<8", 0, 1, 8, 0);
         spreadBy("(b>1)+(b>5)", 0, 2, 0, 6);
