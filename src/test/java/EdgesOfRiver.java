@@ -13,6 +13,8 @@ public final class EdgesOfRiver {
         steadySteps();
         steadyWays();
         steadyAtItsEnds();
+        steadyAtBothLimits();
+        steadyBehindSteady();
         trims();
         Edge.finish();
     }
@@ -364,6 +366,47 @@ public final class EdgesOfRiver {
         Edge.dueRow(v, "steady(11)", 0, 18, 18, 18, 18, 18, 18, 18, 18, 18, 18);
         Edge.due("steady(15)", v.steady(15), 1);
         Edge.dueRow(v, "steady(15)", 3, 0, 0, 0, 18, 18, 18, 18, 18, 18, 18);
+    }
+
+    private static void steadyAtBothLimits() {
+        Edge.about(35, "500 ways behind the twentieth BELL are not more than 500");
+        LighterAtDusk x = Edge.with("t8;t7;t3");
+        x.board(0, 3);
+        x.board(1, -4);
+        x.board(2, 2);
+        x.bear(1, 30);
+        Edge.due("steady(20), 500 ways behind the last BELL", x.steady(20), 1);
+        Edge.dueRow(x, "steady(20)", 0, 18, 18, 18, 18, 18, 18, 18, 18, 18, 18);
+    }
+
+    /** What an earlier call looked at must not come into a later one that has fewer ways. */
+    private static void steadyBehindSteady() {
+        Edge.about(35, "the fewest steps, of as few the least row, asked behind other such questions");
+        LighterAtDusk x = Edge.with("t4;p1;t5", "w+(b=i*3)*15");
+        x.bear(1, 9999);
+        x.board(0, -4);
+        x.board(1, 3);
+        x.board(2, 1);
+        x.bear(1, 12);
+        x.steady(19);
+        x.bear(1, 10);
+        // at BELL 3 the person weighs 16, so that LEAN is -16 + 48 + 5: two of its steps are the least that do
+        Edge.due("steady(19)", x.steady(19), 1);
+        Edge.dueRow(x, "steady(19)", 2, 2, 2, 18, 18, 18, 18, 18, 18, 18, 18);
+        LighterAtDusk y = Edge.with("p4;p2;t4", "w+(b=i*3)*15");
+        y.bear(1, 9999);
+        y.board(0, -1);
+        y.board(1, -2);
+        y.board(2, 0);
+        y.bear(1, 39);
+        y.steady(20);
+        y.bear(1, 36);
+        y.steady(10);
+        y.ring(5);
+        y.bear(1, 12);
+        // the first must be at 0 by dawn, when it weighs 19, the second at 0 by BELL 3, when it weighs 17
+        Edge.due("steady(19)", y.steady(19), 1);
+        Edge.dueRow(y, "steady(19)", 3, 1, 3, 3, 18, 18, 18, 18, 18, 18, 18);
     }
 
     private static void trims() {

@@ -2,33 +2,79 @@ import java.lang.reflect.Constructor;
 import java.lang.reflect.Field;
 import java.lang.reflect.Method;
 import java.lang.reflect.Modifier;
+import java.nio.file.Files;
+import java.nio.file.Path;
 import java.util.ArrayList;
 import java.util.List;
-import java.util.NoSuchElementException;
 import java.util.TreeSet;
+import java.util.regex.Matcher;
+import java.util.regex.Pattern;
 
-/** The public face as the document writes it out, and nothing else to be seen from outside. */
+/** The public face as ../shared/DOC.md writes it out, and nothing else to be seen from outside. */
 public final class Face {
-    private static final String[] FACE = {
-        "int sign(int)", "boolean end(int)", "int folk()", "int rule()", "int of(int,int) throws", "int weight(int,int) throws",
-        "int all(int,int)", "int bear(int,int)", "int sheet(int,int,int,int)", "int ring(int)", "int board(int,int)",
-        "int off(int)", "int step(int,int)", "int day()", "int undo()", "int lean(int) throws", "int tips()",
-        "int lighter(int,int)", "int between(int,int,int)", "int climbs(int,int)", "int spread(int)", "int floor(int)",
-        "int heaviest(int)", "int timber(int,int)", "int task(int,int)", "int forget()", "int crew(int,int)", "int times(int)",
-        "int earliest()", "int most(int)", "int goes(int)", "int cross(int,int)", "int start(int)", "int steady(int)",
-        "int trim(int)", "int balance(int,int,int) throws", "int even(int,int)", "int makeup(int,int,int)",
-        "int split(int,int)", "int pair(int,int) throws", "int weighed(int,int,int)", "int unsay()", "int believed()",
-        "int fits(int)", "int liars()", "int print(int,int,int)", "int hour(int,int,int,int)", "int ballast(int,int)",
-        "int swap(int,int,int,int) throws", "int order(int)", "boolean keep(int)", "boolean again(int)", "int count(int)",
-        "int row(int) throws"
-    };
+    private static final int METHODS = 54;
+    private static final Pattern WRITTEN =
+        Pattern.compile("    public (\\w+) (\\w+)\\(([^)]*)\\)( throws NoSuchElementException)?;");
 
-    public static void main(String[] args) {
-        List<String> faults = new ArrayList<>();
-        TreeSet<String> due = new TreeSet<>(List.of(FACE));
+    private static final List<String> faults = new ArrayList<>();
+
+    public static void main(String[] args) throws Exception {
+        TreeSet<String> due = written(Files.readAllLines(Path.of("../shared/DOC.md")));
+        if (due.size() != METHODS) {
+            faults.add(due.size() + " methods are read in DOC.md, " + METHODS + " are due");
+        }
+        TreeSet<String> names = methods(due);
+        insideClasses(names);
+        fields();
+        constructors();
+        int modifiers = LighterAtDusk.class.getModifiers();
+        boolean plain = LighterAtDusk.class.getInterfaces().length == 0 && LighterAtDusk.class.getSuperclass() == Object.class;
+        if (!Modifier.isPublic(modifiers) || !Modifier.isFinal(modifiers) || !plain) {
+            faults.add("the class is not as written");
+        }
+        for (String fault : faults) {
+            System.out.println(fault);
+        }
+        System.out.println(METHODS + " methods looked for, " + faults.size() + " faults");
+        if (!faults.isEmpty()) {
+            System.exit(1);
+        }
+    }
+
+    private static TreeSet<String> written(List<String> lines) {
+        TreeSet<String> face = new TreeSet<>();
+        for (String line : lines) {
+            Matcher method = WRITTEN.matcher(line);
+            if (method.matches()) {
+                String types = method.group(3).replaceAll(" \\w+(?=,|$)", "").replace(" ", "");
+                face.add("public " + method.group(1) + " " + method.group(2) + "(" + types + ")"
+                    + (method.group(4) == null ? "" : method.group(4)));
+            }
+        }
+        return face;
+    }
+
+    private static String told(Method method) {
+        StringBuilder out = new StringBuilder();
+        out.append(Modifier.toString(method.getModifiers())).append(' ');
+        out.append(method.getReturnType()).append(' ').append(method.getName()).append('(');
+        for (Class<?> type : method.getParameterTypes()) {
+            out.append(out.charAt(out.length() - 1) == '(' ? "" : ",").append(type);
+        }
+        out.append(')');
+        for (Class<?> type : method.getExceptionTypes()) {
+            out.append(" throws ").append(type.getSimpleName());
+        }
+        return out.toString();
+    }
+
+    private static TreeSet<String> methods(TreeSet<String> due) {
         TreeSet<String> names = new TreeSet<>();
+        TreeSet<String> own = new TreeSet<>();
         for (Method method : LighterAtDusk.class.getDeclaredMethods()) {
-            if (!Modifier.isPrivate(method.getModifiers()) && !method.isSynthetic()) {
+            if (Modifier.isPrivate(method.getModifiers()) || method.isSynthetic()) {
+                own.add(method.getName());
+            } else {
                 names.add(method.getName());
                 if (!due.remove(told(method))) {
                     faults.add("not of the face: " + told(method));
@@ -38,57 +84,50 @@ public final class Face {
         for (String missing : due) {
             faults.add("missing: " + missing);
         }
-        for (Method method : LighterAtDusk.class.getDeclaredMethods()) {
-            if (Modifier.isPrivate(method.getModifiers()) && names.contains(method.getName())) {
-                faults.add("private, but of a public one's name: " + method.getName());
-            }
+        own.retainAll(names);
+        for (String name : own) {
+            faults.add("private, but of a public one's name: " + name);
         }
+        return names;
+    }
+
+    private static void insideClasses(TreeSet<String> names) {
         for (Class<?> inside : LighterAtDusk.class.getDeclaredClasses()) {
+            int modifiers = inside.getModifiers();
+            if (Modifier.isPublic(modifiers) || Modifier.isProtected(modifiers) || !Modifier.isStatic(modifiers)) {
+                faults.add("inside, but to be seen, or not static: " + inside.getSimpleName());
+            }
             for (Method method : inside.getDeclaredMethods()) {
                 if (names.contains(method.getName())) {
                     faults.add("inside, but of a public one's name: " + inside.getSimpleName() + "." + method.getName());
                 }
             }
         }
-        fieldsAndConstructors(faults);
-        for (String fault : faults) {
-            System.out.println(fault);
-        }
-        System.out.println(FACE.length + " methods looked for, " + faults.size() + " faults");
-        if (!faults.isEmpty()) {
-            System.exit(1);
-        }
     }
 
-    private static void fieldsAndConstructors(List<String> faults) {
+    private static void fields() throws IllegalAccessException {
+        boolean none = false;
         for (Field field : LighterAtDusk.class.getDeclaredFields()) {
-            if (!Modifier.isPrivate(field.getModifiers()) && !field.getName().equals("NONE")) {
+            int modifiers = field.getModifiers();
+            if (field.getName().equals("NONE")) {
+                none = Modifier.toString(modifiers).equals("public static final") && field.getType() == int.class
+                    && field.getInt(null) == -1;
+            } else if (!Modifier.isPrivate(modifiers)) {
                 faults.add("not of the face: " + field);
             }
-            if (Modifier.isStatic(field.getModifiers()) && !Modifier.isFinal(field.getModifiers())) {
+            if (Modifier.isStatic(modifiers) && !Modifier.isFinal(modifiers)) {
                 faults.add("static, but not final: " + field);
             }
         }
-        for (Constructor<?> constructor : LighterAtDusk.class.getDeclaredConstructors()) {
-            if (!Modifier.isPublic(constructor.getModifiers()) || constructor.getParameterCount() != 0) {
-                faults.add("not of the face: " + constructor);
-            }
-        }
-        if (!Modifier.isFinal(LighterAtDusk.class.getModifiers()) || LighterAtDusk.class.getInterfaces().length != 0) {
-            faults.add("the class is not as written");
+        if (!none) {
+            faults.add("NONE is not as written");
         }
     }
 
-    private static String told(Method method) {
-        StringBuilder out = new StringBuilder();
-        out.append(method.getReturnType()).append(' ').append(method.getName()).append('(');
-        for (Class<?> type : method.getParameterTypes()) {
-            out.append(out.charAt(out.length() - 1) == '(' ? "" : ",").append(type);
+    private static void constructors() {
+        Constructor<?>[] all = LighterAtDusk.class.getDeclaredConstructors();
+        if (all.length != 1 || !Modifier.isPublic(all[0].getModifiers()) || all[0].getParameterCount() != 0) {
+            faults.add("the constructor is not as written");
         }
-        out.append(')');
-        for (Class<?> type : method.getExceptionTypes()) {
-            out.append(type == NoSuchElementException.class ? " throws" : " throws another");
-        }
-        return out.toString();
     }
 }
